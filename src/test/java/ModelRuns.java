@@ -165,7 +165,7 @@ public final class ModelRuns {
     }
 
     private void powerOrRecover() {
-        if (style == 0 || !naive.on || random.nextInt(4) == 0) {
+        if (style == 0 || random.nextInt(naive.on ? 4 : 2) == 0) {
             same("recover()", store::recover, naive::recover);
             return;
         }
