@@ -130,10 +130,21 @@ final class Promise05Load extends Checks {
         loadedIs("absent", x, 7);
     }
 
+    static void absentLeavesTheTapeAndThePower() {
+        CodedStore x = twoTexts();
+        x.feed(3, 1);
+        x.power(0);
+        due("load(3)", x.load(3), ABSENT);
+        toldAre("absent", x, 2, 3, 61, 0, 2, 3, 1, 3);
+        due("power(-1)", x.power(-1), 0);
+    }
+
     static void whenOffItIsOff() {
         CodedStore x = twoTexts();
         switchOff(x);
+        x.feed(2, 1);
         due("load(1)", x.load(1), OFF);
+        due("told(7)", x.told(7), 2);
     }
 
     static void whenOffAnAbsentKeyIsOff() {

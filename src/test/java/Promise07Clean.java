@@ -186,8 +186,9 @@ final class Promise07Clean extends Checks {
     static void whenOffItIsOff() {
         CodedStore x = twoGravesAroundTwoFreeBlocks();
         switchOff(x);
+        x.feed(2, 1);
         due("clean()", x.clean(), OFF);
-        due("told(5)", x.told(5), 6);
+        toldAre("off", x, 0, 2, 62, 2, 5, 6, 0, 2);
     }
 
     static void whenOffWithNothingToCleanItIsOff() {
